@@ -365,7 +365,7 @@ public final class DescriptorTable {
         }
         int start = pipe * PIPE_ROOM;
         int oldest = pipeBytes[start];
-        for (int place = 1; place < pipeLength[pipe]; place++) {
+        for (int place = 1; place < PIPE_ROOM; place++) {
             pipeBytes[start + place - 1] = pipeBytes[start + place];
         }
         pipeLength[pipe]--;
