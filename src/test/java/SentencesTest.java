@@ -2,10 +2,10 @@ import java.util.ArrayList;
 import java.util.Arrays;
 import java.util.List;
 
-// One test for each sentence of the document that names a boundary case; the sentence is the
-// test's label. Where a call is refused, two new objects are led through the same calls, one
-// with and one without the refused call, and all that follows must be answered alike.
-public final class BoundaryTest {
+// A test for each sentence of the document; the sentence is the test's label. For each refused
+// call new objects are led through the same calls, some with and some without the refused call,
+// and all that follows must be answered alike.
+public final class SentencesTest {
     private static final int BAD = -1;
     private static final int NO_ROOM = -2;
     private static final int BROKEN = -3;
@@ -15,6 +15,9 @@ public final class BoundaryTest {
     private static final int MOST_CALLS = 512;
     private static final int MIXED_ROWS = 12;
     private static final int CALLS_OF_A_MIXED_ROW = 120;
+    private static final int MIXED_RUNS = 40;
+    // Short of 512, so that the looks still fit in.
+    private static final int CALLS_OF_A_MIXED_RUN = 300;
 
     private static final int MIN = Integer.MIN_VALUE;
     private static final int MAX = Integer.MAX_VALUE;
@@ -189,6 +192,12 @@ public final class BoundaryTest {
         "open", "pipe", "dup", "close", "fork", "exit", "write", "read", "seek", "link", "unlink", "counts"
     };
 
+    // What fills the table comes more often than what empties it.
+    private static final String[] FILLING_METHODS = {
+        "open", "open", "open", "pipe", "pipe", "dup", "dup", "close", "close", "fork", "fork", "exit",
+        "write", "write", "write", "write", "write", "write", "read", "read", "read", "seek", "link", "unlink"
+    };
+
     private static long state;
 
     // A fixed row of numbers instead of a random source, so that a failure comes again.
@@ -201,11 +210,15 @@ public final class BoundaryTest {
         state = 7919L * (number + 1);
         List<Call> row = new ArrayList<>();
         while (row.size() < CALLS_OF_A_MIXED_ROW) {
-            String method = METHODS[next(METHODS.length)];
-            boolean ofNames = method.equals("link") || method.equals("open");
-            row.add(call(method, next(4), next(ofNames ? 4 : 6), next(9)));
+            row.add(mixedCall(METHODS));
         }
         return row;
+    }
+
+    private static Call mixedCall(String[] methods) {
+        String method = methods[next(methods.length)];
+        boolean ofNames = method.equals("link") || method.equals("open");
+        return call(method, next(4), next(ofNames ? 4 : 6), next(9));
     }
 
     private static int[] answersAfter(List<Call> calls, List<Call> look) {
@@ -243,10 +256,6 @@ public final class BoundaryTest {
         }
     }
 
-    private static void dueUnchanged(String label, List<Call> before, Call refused) {
-        dueUnchanged(label, before, allAnswersAfter(before), refused);
-    }
-
     // ---- A run of calls on a new object
 
     private static final class Answer {
@@ -261,15 +270,26 @@ public final class BoundaryTest {
         }
 
         void is(int due) {
+            isWithoutALook(due);
+            if (value < 0) {
+                changesNothing();
+            }
+        }
+
+        // For long rows of the same refused call, where a look after each one would take too long.
+        void isWithoutALook(int due) {
             if (value != due) {
                 fault(run.label + ": call " + run.calls.size() + ", " + call + ", answered " + value
                     + ", due is " + due);
             }
         }
 
-        void refused(int due) {
-            is(due);
-            dueUnchanged(run.label, run.calls.subList(0, run.calls.size() - 1), call);
+        void changesNothing() {
+            List<Call> before = run.calls.subList(0, run.calls.size() - 1);
+            if (run.dueFromHere == null) {
+                run.dueFromHere = allAnswersAfter(before);
+            }
+            dueUnchanged(run.label, before, run.dueFromHere, call);
         }
     }
 
@@ -277,6 +297,8 @@ public final class BoundaryTest {
         final String label;
         final List<Call> calls = new ArrayList<>();
         final DescriptorTable x = new DescriptorTable();
+        // What the looks answer after the last call that was not refused; null if not asked yet.
+        int[][] dueFromHere;
 
         Run(String label) {
             this.label = label;
@@ -288,7 +310,11 @@ public final class BoundaryTest {
             if (calls.size() > MOST_CALLS) {
                 fault(label + ": the test makes more calls than the document allows");
             }
-            return new Answer(this, made, made.on(x));
+            Answer answer = new Answer(this, made, made.on(x));
+            if (answer.value >= 0) {
+                dueFromHere = null;
+            }
+            return answer;
         }
 
         Answer open(int process, int name) {
@@ -380,22 +406,22 @@ public final class BoundaryTest {
         }
 
         void everyCallOfProcessIsBad(int process) {
-            open(process, 0).refused(BAD);
-            open(process, 3).refused(BAD);
-            pipe(process).refused(BAD);
-            fork(process).refused(BAD);
-            exit(process).refused(BAD);
+            open(process, 0).is(BAD);
+            open(process, 3).is(BAD);
+            pipe(process).is(BAD);
+            fork(process).is(BAD);
+            exit(process).is(BAD);
             for (int descriptor = 0; descriptor < 6; descriptor++) {
                 everyCallOfDescriptorIsBad(process, descriptor);
             }
         }
 
         void everyCallOfDescriptorIsBad(int process, int descriptor) {
-            dup(process, descriptor).refused(BAD);
-            close(process, descriptor).refused(BAD);
-            write(process, descriptor, 77).refused(BAD);
-            read(process, descriptor).refused(BAD);
-            seek(process, descriptor, 0).refused(BAD);
+            dup(process, descriptor).is(BAD);
+            close(process, descriptor).is(BAD);
+            write(process, descriptor, 77).is(BAD);
+            read(process, descriptor).is(BAD);
+            seek(process, descriptor, 0).is(BAD);
         }
     }
 
@@ -466,7 +492,7 @@ public final class BoundaryTest {
 
         r = new Run(label + ": refused calls");
         for (int round = 0; round < 511; round++) {
-            r.unlink(0).is(BAD);
+            r.unlink(0).isWithoutALook(BAD);
         }
         dueLast(r, r.pipe(0), 1);
     }
@@ -493,7 +519,7 @@ public final class BoundaryTest {
         r.pipe(0).is(8 + 2);
         r.write(0, 2, 200).is(0);
         while (r.calls.size() < MOST_CALLS - 1) {
-            r.make(many.method, many.a, many.b, many.c).is(due);
+            r.make(many.method, many.a, many.b, many.c).isWithoutALook(due);
         }
         dueLast(r, r.make(last.method, last.a, last.b, last.c), dueAtLast);
     }
@@ -543,7 +569,7 @@ public final class BoundaryTest {
         Run r = new Run(label + ": process 0");
         r.fork(0).is(1);
         r = new Run(label + ": process 0 is the only one");
-        r.exit(0).refused(BAD);
+        r.exit(0).is(BAD);
     }
 
     private static void atTheStartAllDescriptorsAreFree() {
@@ -592,12 +618,12 @@ public final class BoundaryTest {
         for (int place = 0; place < 8; place++) {
             r.writes(place % 4, (5 * place + 1) % 6, 30 + place);
         }
-        r.write(2, 2, 1).refused(NO_ROOM);
+        r.write(2, 2, 1).is(NO_ROOM);
         r.seek(3, 5, 0).is(0);
         for (int place = 0; place < 8; place++) {
             r.reads(3 - place % 4, place % 6, 30 + place);
         }
-        r.read(1, 3).refused(END);
+        r.read(1, 3).is(END);
 
         r = new Run(label + ": the ends of a pipe");
         r.pipe(0).is(1);
@@ -651,7 +677,7 @@ public final class BoundaryTest {
         r.closes(1, 0);
         r.writes(0, 1, 4);
         r.closes(1, 2);
-        r.write(0, 1, 5).refused(BROKEN);
+        r.write(0, 1, 5).is(BROKEN);
         r.counts().is(101);
 
         r = new Run(label + ": with its process");
@@ -681,23 +707,23 @@ public final class BoundaryTest {
             r.opens(0, 0, 0);
             r.opens(0, 3, 1);
             r.fork(0).is(1);
-            r.open(0, name).refused(BAD);
-            r.open(1, name).refused(BAD);
-            r.unlink(name).refused(BAD);
+            r.open(0, name).is(BAD);
+            r.open(1, name).is(BAD);
+            r.unlink(name).is(BAD);
             for (int other = 0; other < 4; other++) {
-                r.link(name, other).refused(BAD);
-                r.link(other, name).refused(BAD);
+                r.link(name, other).is(BAD);
+                r.link(other, name).is(BAD);
             }
-            r.link(name, name).refused(BAD);
+            r.link(name, name).is(BAD);
         }
     }
 
     private static void allNamesAreFreeAtTheStart() {
         Run r = new Run("all [names] are free at the start");
         for (int name = 0; name < 4; name++) {
-            r.unlink(name).refused(BAD);
+            r.unlink(name).is(BAD);
             for (int to = 0; to < 4; to++) {
-                r.link(name, to).refused(BAD);
+                r.link(name, to).is(BAD);
             }
         }
         r.counts().is(0);
@@ -715,19 +741,19 @@ public final class BoundaryTest {
             r.writes(0, 0, bytes(90, length));
             r.open(0, 0).is(1);
             r.reads(0, 1, bytes(90, length));
-            r.read(0, 1).refused(END);
+            r.read(0, 1).is(END);
             r.seek(0, 1, length).is(0);
-            r.seek(0, 1, length + 1).refused(BAD);
+            r.seek(0, 1, length + 1).is(BAD);
         }
         Run r = new Run(label + ": not 9");
         r.open(0, 0).is(0);
         r.open(0, 1).is(1);
         r.writes(0, 1, bytes(10, 8));
         r.writes(0, 0, bytes(20, 8));
-        r.write(0, 0, 99).refused(NO_ROOM);
+        r.write(0, 0, 99).is(NO_ROOM);
         r.seek(0, 1, 0).is(0);
         r.reads(0, 1, bytes(10, 8));
-        r.read(0, 1).refused(END);
+        r.read(0, 1).is(END);
     }
 
     private static void severalNamesMayLeadToTheSameFile() {
@@ -818,6 +844,58 @@ public final class BoundaryTest {
         r.counts().is(110);
     }
 
+    private static void openingsAreOfThreeSorts() {
+        String label = "OPENINGS are of three sorts: an opening of a file, which has an OFFSET; "
+            + "a READING END of a pipe; a WRITING END of a pipe";
+        Run r = new Run(label + ": each does what its sort does, also in a copy and in another process");
+        r.open(0, 0).is(0);
+        r.pipe(0).is(8 + 2);
+        r.dup(0, 0).is(3);
+        r.dup(0, 1).is(4);
+        r.dup(0, 2).is(5);
+        r.fork(0).is(1);
+        for (int process = 0; process < 2; process++) {
+            for (int first = 0; first < 6; first += 3) {
+                r.seek(process, first, 0).is(0);
+                r.write(process, first, 40 + first).is(0);
+                r.seek(process, first, 0).is(0);
+                r.read(process, first).is(40 + first);
+
+                r.write(process, first + 1, 9).is(BAD);
+                r.seek(process, first + 1, 0).is(BAD);
+                r.read(process, first + 1).is(WAIT);
+
+                r.read(process, first + 2).is(BAD);
+                r.seek(process, first + 2, 0).is(BAD);
+                r.write(process, first + 2, 50 + first).is(0);
+
+                r.read(process, first + 1).is(50 + first);
+            }
+        }
+        r.counts().is(311);
+
+        r = new Run(label + ": each opening of a file has an offset of its own");
+        r.opens(0, 0, 0, 1, 2);
+        r.open(0, 1).is(3);
+        r.writes(0, 0, bytes(1, 8));
+        r.writes(0, 3, bytes(11, 4));
+        r.reads(0, 1, 1, 2, 3);
+        r.seek(0, 2, 6).is(0);
+        r.reads(0, 0, END);
+        r.reads(0, 1, 4);
+        r.reads(0, 2, 7);
+        r.reads(0, 3, END);
+        r.writes(0, 1, 91);
+        r.writes(0, 2, 92);
+        r.write(0, 0, 93).is(NO_ROOM);
+        r.writes(0, 3, 94);
+        r.reads(0, 1, 6, 7, 92, END);
+        r.seek(0, 0, 3).is(0);
+        r.reads(0, 0, 4, 91, 6);
+        r.seek(0, 3, 3).is(0);
+        r.reads(0, 3, 14, 94, END);
+    }
+
     private static void aPipeHolds0To6Bytes() {
         String label = "A PIPE holds a row of 0 to 6 bytes";
         for (int length = 0; length <= 6; length++) {
@@ -825,19 +903,19 @@ public final class BoundaryTest {
             r.pipe(0).is(1);
             r.writes(0, 1, bytes(80, length));
             r.reads(0, 0, bytes(80, length));
-            r.read(0, 0).refused(WAIT);
+            r.read(0, 0).is(WAIT);
         }
         Run r = new Run(label + ": not 7");
         r.pipe(0).is(1);
         r.pipe(0).is(8 * 2 + 3);
         r.writes(0, 3, bytes(10, 6));
         r.writes(0, 1, bytes(20, 6));
-        r.write(0, 1, 99).refused(WAIT);
-        r.write(0, 3, 99).refused(WAIT);
+        r.write(0, 1, 99).is(WAIT);
+        r.write(0, 3, 99).is(WAIT);
         r.reads(0, 2, bytes(10, 6));
-        r.read(0, 2).refused(WAIT);
+        r.read(0, 2).is(WAIT);
         r.reads(0, 0, bytes(20, 6));
-        r.read(0, 0).refused(WAIT);
+        r.read(0, 0).is(WAIT);
     }
 
     private static void aPipeHasAtMostOneReadingAndOneWritingEnd() {
@@ -944,10 +1022,10 @@ public final class BoundaryTest {
         Run r = new Run(label + ": while no descriptor is free");
         r.opens(0, 0, 0, 1, 2, 3, 4, 5);
         for (int name : NO_NAME) {
-            r.open(0, name).refused(BAD);
+            r.open(0, name).is(BAD);
         }
         for (int descriptor : NO_DESCRIPTOR) {
-            r.dup(0, descriptor).refused(BAD);
+            r.dup(0, descriptor).is(BAD);
         }
         r.fork(0).is(1);
         r.exit(0).is(0);
@@ -956,7 +1034,7 @@ public final class BoundaryTest {
         r = new Run(label + ": while all processes are alive");
         r.allAlive();
         for (int process : NO_PROCESS) {
-            r.fork(process).refused(BAD);
+            r.fork(process).is(BAD);
         }
     }
 
@@ -968,6 +1046,29 @@ public final class BoundaryTest {
                 if (answersAfter(r.calls, List.of(each))[0] < 0) {
                     dueUnchanged(r.label, r.calls, due, each);
                 }
+            }
+        }
+    }
+
+    private static void eachRefusedCallOfALongRunChangesNothing() {
+        int[] refused = new int[-END + 1];
+        for (int number = 0; number < MIXED_RUNS; number++) {
+            Run r = new Run("A refused call changes nothing: mixed run " + number);
+            state = 104729L * (number + 1);
+            for (int time = 0; time < CALLS_OF_A_MIXED_RUN; time++) {
+                Call next = mixedCall(FILLING_METHODS);
+                Answer answer = r.make(next.method, next.a, next.b, next.c);
+                if (answer.value < END) {
+                    answer.is(BAD);
+                } else if (answer.value < 0) {
+                    answer.changesNothing();
+                    refused[-answer.value]++;
+                }
+            }
+        }
+        for (int answer = BAD; answer >= END; answer--) {
+            if (refused[-answer] == 0) {
+                fault("no call of the mixed runs answered " + answer);
             }
         }
     }
@@ -1071,7 +1172,7 @@ public final class BoundaryTest {
                 r.fillBut(process, 0, mask);
                 int opened = least(mask);
                 if (opened < 0) {
-                    r.open(process, 1).refused(NO_ROOM);
+                    r.open(process, 1).is(NO_ROOM);
                 } else {
                     r.open(process, 1).is(opened);
                     r.writes(process, opened, 9);
@@ -1086,12 +1187,50 @@ public final class BoundaryTest {
                         r.dup(process, descriptor).is(least(mask));
                         r.closes(process, least(mask));
                     } else if (mask == 0) {
-                        r.dup(process, descriptor).refused(NO_ROOM);
+                        r.dup(process, descriptor).is(NO_ROOM);
                     } else {
-                        r.dup(process, descriptor).refused(BAD);
+                        r.dup(process, descriptor).is(BAD);
                     }
                 }
             }
+        }
+    }
+
+    // ---- Promise 1
+
+    private static void aNewObjectIsAsSaidAbove() {
+        String label = "DescriptorTable(): As said above";
+        int[][] due = allAnswersAfter(List.of());
+        for (Run busy : busyRuns(label)) {
+            Run r = new Run(label + ": whatever other objects there are");
+            for (int look = 0; look < LOOKS.size(); look++) {
+                if (!Arrays.equals(answersAfter(List.of(), LOOKS.get(look)), due[look])) {
+                    fault(r.label + ": a new object differs from the first in look " + look);
+                }
+            }
+            r.counts().is(0);
+            r.fork(1).is(BAD);
+            r.exit(0).is(BAD);
+            for (int place = 0; place < 24; place++) {
+                r.close(place / 6, place % 6).is(BAD);
+            }
+            for (int name = 0; name < 4; name++) {
+                r.unlink(name).is(BAD);
+            }
+            r.pipe(0).is(1);
+            r.writes(0, 1, 7);
+            r.open(0, 0).is(2);
+            r.counts().is(311);
+            int[][] dueOfBusy = allAnswersAfter(busy.calls);
+            int[] got = new int[LOOKS.get(0).size()];
+            for (int place = 0; place < got.length; place++) {
+                got[place] = LOOKS.get(0).get(place).on(busy.x);
+            }
+            if (!Arrays.equals(got, dueOfBusy[0])) {
+                fault(r.label + ": the calls of another object changed it, after " + busy.calls);
+            }
+            r.reads(0, 0, 7, WAIT);
+            r.reads(0, 2, END);
         }
     }
 
@@ -1102,8 +1241,8 @@ public final class BoundaryTest {
         for (int name = 0; name < 4; name++) {
             Run r = new Run(label + ": the first file of the name");
             r.open(0, name).is(0);
-            r.read(0, 0).refused(END);
-            r.seek(0, 0, 1).refused(BAD);
+            r.read(0, 0).is(END);
+            r.seek(0, 0, 1).is(BAD);
             r.counts().is(110);
 
             r = new Run(label + ": the name's earlier file is gone");
@@ -1112,8 +1251,8 @@ public final class BoundaryTest {
             r.closes(0, 0);
             r.unlink(name).is(0);
             r.open(0, name).is(0);
-            r.read(0, 0).refused(END);
-            r.seek(0, 0, 1).refused(BAD);
+            r.read(0, 0).is(END);
+            r.seek(0, 0, 1).is(BAD);
             r.counts().is(110);
 
             r = new Run(label + ": the name's earlier file is still open");
@@ -1121,7 +1260,7 @@ public final class BoundaryTest {
             r.writes(0, 0, bytes(1, 8));
             r.unlink(name).is(0);
             r.open(0, name).is(1);
-            r.read(0, 1).refused(END);
+            r.read(0, 1).is(END);
             r.counts().is(220);
             r.writes(0, 1, 60);
             r.seek(0, 0, 0).is(0);
@@ -1164,21 +1303,21 @@ public final class BoundaryTest {
         r.fork(0).is(1);
         r.opens(1, 0, 0, 1, 2, 3, 4, 5);
         for (int name = 0; name < 4; name++) {
-            r.open(1, name).refused(NO_ROOM);
+            r.open(1, name).is(NO_ROOM);
         }
         r.counts().is(610);
         r.open(0, 0).is(0);
         for (int descriptor = 0; descriptor < 6; descriptor++) {
             r.closes(1, descriptor);
             r.open(1, 0).is(descriptor);
-            r.open(1, 0).refused(NO_ROOM);
+            r.open(1, 0).is(NO_ROOM);
         }
         r = new Run(label + ": all lead to one opening");
         r.pipe(0).is(1);
         for (int copy = 2; copy < 6; copy++) {
             r.dup(0, 0).is(copy);
         }
-        r.open(0, 0).refused(NO_ROOM);
+        r.open(0, 0).is(NO_ROOM);
         r.counts().is(201);
     }
 
@@ -1188,23 +1327,23 @@ public final class BoundaryTest {
         String label = "Makes a pipe without bytes";
         Run r = new Run(label + ": the first");
         r.pipe(0).is(1);
-        r.read(0, 0).refused(WAIT);
+        r.read(0, 0).is(WAIT);
         for (int length = 1; length <= 6; length++) {
             r = new Run(label + ": after one with " + length);
             r.pipe(0).is(1);
             r.writes(0, 1, bytes(1, length));
             r.closes(0, 0, 1);
             r.pipe(0).is(1);
-            r.read(0, 0).refused(WAIT);
+            r.read(0, 0).is(WAIT);
             r.writes(0, 1, bytes(41, 6));
-            r.write(0, 1, 47).refused(WAIT);
+            r.write(0, 1, 47).is(WAIT);
             r.reads(0, 0, bytes(41, 6));
 
             r = new Run(label + ": beside one with " + length);
             r.pipe(0).is(1);
             r.writes(0, 1, bytes(1, length));
             r.pipe(0).is(8 * 2 + 3);
-            r.read(0, 2).refused(WAIT);
+            r.read(0, 2).is(WAIT);
             r.writes(0, 3, 9);
             r.reads(0, 0, bytes(1, length));
             r.reads(0, 0, WAIT);
@@ -1221,12 +1360,12 @@ public final class BoundaryTest {
             int first = least(mask);
             int second = least(mask & mask - 1);
             if (second < 0) {
-                r.pipe(1).refused(NO_ROOM);
+                r.pipe(1).is(NO_ROOM);
                 continue;
             }
             r.pipe(1).is(8 * first + second);
-            r.write(1, first, 5).refused(BAD);
-            r.read(1, second).refused(BAD);
+            r.write(1, first, 5).is(BAD);
+            r.read(1, second).is(BAD);
             r.writes(1, second, 5);
             r.reads(1, first, 5, WAIT);
         }
@@ -1236,27 +1375,79 @@ public final class BoundaryTest {
         String label = "NO_ROOM if fewer than two descriptors are free";
         Run r = new Run(label + ": none");
         r.opens(0, 0, 0, 1, 2, 3, 4, 5);
-        r.pipe(0).refused(NO_ROOM);
+        r.pipe(0).is(NO_ROOM);
         r.counts().is(610);
         for (int free = 0; free < 6; free++) {
             r = new Run(label + ": " + free + " alone");
             r.fork(0).is(1);
             r.fillBut(0, 0, 1 << free);
-            r.pipe(0).refused(NO_ROOM);
+            r.pipe(0).is(NO_ROOM);
             r.counts().is(510);
             r.everyCallOfDescriptorIsBad(0, free);
             r.open(0, 0).is(free);
-            r.pipe(0).refused(NO_ROOM);
+            r.pipe(0).is(NO_ROOM);
             r.pipe(1).is(1);
         }
         r = new Run(label + ": two");
         r.fillBut(0, 0, 0b110000);
         r.pipe(0).is(8 * 4 + 5);
-        r.pipe(0).refused(NO_ROOM);
+        r.pipe(0).is(NO_ROOM);
         r.counts().is(611);
     }
 
     // ---- Promise 4
+
+    private static void dupLeadsToTheSameOpening() {
+        String label = "The least free descriptor leads to the opening that the descriptor leads to";
+        for (int descriptor = 0; descriptor < 6; descriptor++) {
+            for (int free = 0; free < 6; free++) {
+                if (free == descriptor) {
+                    continue;
+                }
+                Run r = new Run(label + ": " + free + " to that of " + descriptor);
+                r.fork(0).is(1);
+                r.fillBut(0, 0, 1 << free);
+                r.writes(0, descriptor, bytes(1, 8));
+                r.seek(0, descriptor, 3).is(0);
+                r.dup(0, descriptor).is(free);
+                r.counts().is(510);
+                r.reads(0, free, 4);
+                r.reads(0, descriptor, 5);
+                r.writes(0, free, 60);
+                r.reads(0, descriptor, 7);
+                r.seek(0, descriptor, 8).is(0);
+                r.read(0, free).is(END);
+                for (int other = 0; other < 6; other++) {
+                    if (other != free && other != descriptor) {
+                        r.reads(0, other, 1);
+                    }
+                }
+                r.closes(0, descriptor);
+                r.counts().is(510);
+                r.seek(0, free, 5).is(0);
+                r.reads(0, free, 60);
+                r.closes(0, free);
+                r.counts().is(410);
+                r.close(1, free).is(BAD);
+            }
+        }
+
+        Run r = new Run(label + ": an end of a pipe");
+        r.pipe(0).is(1);
+        r.dup(0, 1).is(2);
+        r.dup(0, 0).is(3);
+        r.counts().is(201);
+        r.writes(0, 2, 5);
+        r.writes(0, 1, 6);
+        r.reads(0, 3, 5);
+        r.reads(0, 0, 6, WAIT);
+        r.closes(0, 1);
+        r.reads(0, 3, WAIT);
+        r.closes(0, 0);
+        r.writes(0, 2, 7);
+        r.closes(0, 2);
+        r.reads(0, 3, 7, END);
+    }
 
     private static void dupWithoutAFreeDescriptor() {
         String label = "dup: NO_ROOM if none is free";
@@ -1266,13 +1457,13 @@ public final class BoundaryTest {
         r.pipe(1).is(8 + 2);
         r.opens(1, 1, 3, 4, 5);
         for (int descriptor = 0; descriptor < 6; descriptor++) {
-            r.dup(1, descriptor).refused(NO_ROOM);
+            r.dup(1, descriptor).is(NO_ROOM);
         }
         r.closes(1, 4);
         r.dup(1, 2).is(4);
         r.writes(1, 4, 8);
         r.reads(1, 1, 8, WAIT);
-        r.dup(1, 2).refused(NO_ROOM);
+        r.dup(1, 2).is(NO_ROOM);
         r.open(0, 0).is(0);
         r.dup(0, 0).is(1);
     }
@@ -1286,12 +1477,12 @@ public final class BoundaryTest {
             r.opens(0, 0, 0, 1, 2, 3, 4, 5);
             r.fork(0).is(1);
             r.close(0, descriptor).is(0);
-            r.close(0, descriptor).refused(BAD);
+            r.close(0, descriptor).is(BAD);
             r.everyCallOfDescriptorIsBad(0, descriptor);
             r.counts().is(610);
             r.writes(1, descriptor, 5);
             r.close(1, descriptor).is(0);
-            r.close(1, descriptor).refused(BAD);
+            r.close(1, descriptor).is(BAD);
             r.counts().is(510);
             r.open(0, 0).is(descriptor);
             r.reads(0, descriptor, 5, END);
@@ -1314,7 +1505,7 @@ public final class BoundaryTest {
             for (int left = dead; left != 0; left &= left - 1) {
                 r.fork(parent).is(Integer.numberOfTrailingZeros(left));
             }
-            r.fork(parent).refused(NO_ROOM);
+            r.fork(parent).is(NO_ROOM);
         }
     }
 
@@ -1344,7 +1535,7 @@ public final class BoundaryTest {
         r.open(0, 0).is(0);
         r.fork(0).is(1);
         r.open(0, 1).is(1);
-        r.close(1, 1).refused(BAD);
+        r.close(1, 1).is(BAD);
         r.closes(1, 0);
         r.writes(0, 0, 1);
         r.open(1, 2).is(0);
@@ -1362,11 +1553,11 @@ public final class BoundaryTest {
         r.fork(2).is(3);
         r.closes(1, 0);
         for (int process = 0; process < 4; process++) {
-            r.fork(process).refused(NO_ROOM);
+            r.fork(process).is(NO_ROOM);
         }
         r.exit(0).is(0);
         r.fork(3).is(0);
-        r.fork(3).refused(NO_ROOM);
+        r.fork(3).is(NO_ROOM);
     }
 
     // ---- Promise 7
@@ -1393,8 +1584,8 @@ public final class BoundaryTest {
         r.reads(0, 0, WAIT);
         r.writes(0, 3, 6);
         r.exit(1).is(0);
-        r.read(0, 0).refused(END);
-        r.write(0, 3, 6).refused(BROKEN);
+        r.read(0, 0).is(END);
+        r.write(0, 3, 6).is(BROKEN);
         r.counts().is(202);
     }
 
@@ -1404,20 +1595,20 @@ public final class BoundaryTest {
             Run r = new Run(label + ": the last is " + last);
             r.open(0, 0).is(0);
             r.writes(0, 0, 1);
-            r.exit(0).refused(BAD);
+            r.exit(0).is(BAD);
             r.allAlive();
             for (int process = 0; process < 4; process++) {
                 if (process != last) {
                     r.exit(process).is(0);
                 }
             }
-            r.exit(last).refused(BAD);
+            r.exit(last).is(BAD);
             r.counts().is(110);
             r.writes(last, 0, 2);
             int child = last == 0 ? 1 : 0;
             r.fork(last).is(child);
             r.exit(last).is(0);
-            r.exit(child).refused(BAD);
+            r.exit(child).is(BAD);
         }
     }
 
@@ -1443,16 +1634,55 @@ public final class BoundaryTest {
         }
     }
 
+    private static void writeGoesOnBy1() {
+        String label = "the byte at its offset becomes the value and the offset goes on by 1";
+        for (int offset = 0; offset < 8; offset++) {
+            for (int number = 1; number <= 8 - offset; number++) {
+                Run r = new Run(label + ": " + number + " bytes from offset " + offset);
+                r.open(0, 0).is(0);
+                r.open(0, 0).is(1);
+                r.open(0, 1).is(2);
+                r.writes(0, 0, bytes(1, 8));
+                r.writes(0, 2, bytes(21, 8));
+                r.seek(0, 0, offset).is(0);
+                r.writes(0, 0, bytes(101, number));
+                r.reads(0, 1, bytes(1, offset));
+                r.reads(0, 1, bytes(101, number));
+                r.reads(0, 1, bytes(offset + number + 1, 8 - offset - number));
+                r.read(0, 1).is(END);
+                r.reads(0, 0, offset + number < 8 ? offset + number + 1 : END);
+                r.seek(0, 2, 0).is(0);
+                r.reads(0, 2, bytes(21, 8));
+            }
+        }
+    }
+
+    private static void writePutsTheByteAtTheEnd() {
+        String label = "A writing end: the byte is put at the end of the pipe";
+        for (int taken = 0; taken <= 6; taken++) {
+            for (int left = 0; left < 6; left++) {
+                Run r = new Run(label + ": after " + left + " others, " + taken + " are taken out already");
+                r.pipe(0).is(1);
+                r.writes(0, 1, bytes(1, taken));
+                r.reads(0, 0, bytes(1, taken));
+                r.writes(0, 1, bytes(11, left));
+                r.write(0, 1, 99).is(0);
+                r.reads(0, 0, bytes(11, left));
+                r.reads(0, 0, 99, WAIT);
+            }
+        }
+    }
+
     private static void writeAtTheEndOfAFile() {
         String label = "if the offset is the number of bytes, the file has one byte more then";
         for (int length = 0; length < 8; length++) {
             Run r = new Run(label + ": " + length + " bytes");
             r.open(0, 0).is(0);
             r.writes(0, 0, bytes(1, length));
-            r.seek(0, 0, length + 1).refused(BAD);
+            r.seek(0, 0, length + 1).is(BAD);
             r.writes(0, 0, 99);
-            r.seek(0, 0, length + 2).refused(BAD);
-            r.read(0, 0).refused(END);
+            r.seek(0, 0, length + 2).is(BAD);
+            r.read(0, 0).is(END);
             r.seek(0, 0, length + 1).is(0);
             r.seek(0, 0, 0).is(0);
             r.reads(0, 0, bytes(1, length));
@@ -1465,7 +1695,7 @@ public final class BoundaryTest {
             r.seek(0, 0, offset).is(0);
             r.writes(0, 0, 99);
             r.reads(0, 0, bytes(offset + 2, 7 - offset));
-            r.read(0, 0).refused(END);
+            r.read(0, 0).is(END);
             r.seek(0, 0, 0).is(0);
             r.reads(0, 0, bytes(1, offset));
             r.reads(0, 0, 99);
@@ -1476,8 +1706,8 @@ public final class BoundaryTest {
             r.writes(0, 0, bytes(1, length));
             r.open(0, 0).is(1);
             r.writes(0, 1, 99);
-            r.seek(0, 1, length + 1).refused(BAD);
-            r.read(0, 0).refused(END);
+            r.seek(0, 1, length + 1).is(BAD);
+            r.read(0, 0).is(END);
         }
     }
 
@@ -1487,21 +1717,21 @@ public final class BoundaryTest {
         r.open(0, 0).is(0);
         r.writes(0, 0, bytes(1, 7));
         r.write(0, 0, 8).is(0);
-        r.write(0, 0, 9).refused(NO_ROOM);
-        r.write(0, 0, 9).refused(NO_ROOM);
+        r.write(0, 0, 9).is(NO_ROOM);
+        r.write(0, 0, 9).is(NO_ROOM);
         r.seek(0, 0, 0).is(0);
         r.reads(0, 0, bytes(1, 8));
-        r.write(0, 0, 9).refused(NO_ROOM);
+        r.write(0, 0, 9).is(NO_ROOM);
         r.seek(0, 0, 8).is(0);
-        r.write(0, 0, 9).refused(NO_ROOM);
+        r.write(0, 0, 9).is(NO_ROOM);
 
         r = new Run(label + ": and not merely the file full");
         r.open(0, 0).is(0);
         r.open(0, 0).is(1);
         r.writes(0, 0, bytes(1, 8));
         r.writes(0, 1, bytes(21, 8));
-        r.write(0, 1, 9).refused(NO_ROOM);
-        r.write(0, 0, 9).refused(NO_ROOM);
+        r.write(0, 1, 9).is(NO_ROOM);
+        r.write(0, 0, 9).is(NO_ROOM);
         r.seek(0, 0, 0).is(0);
         r.reads(0, 0, bytes(21, 8));
 
@@ -1511,7 +1741,7 @@ public final class BoundaryTest {
             r.writes(0, name, bytes(10 * name, 8));
         }
         for (int name = 0; name < 4; name++) {
-            r.write(0, name, 99).refused(NO_ROOM);
+            r.write(0, name, 99).is(NO_ROOM);
         }
         for (int name = 0; name < 4; name++) {
             r.seek(0, name, 0).is(0);
@@ -1527,8 +1757,8 @@ public final class BoundaryTest {
             r.pipe(0).is(1);
             r.writes(0, 1, bytes(1, length));
             r.closes(0, 0);
-            r.write(0, 1, 9).refused(BROKEN);
-            r.write(0, 1, 9).refused(BROKEN);
+            r.write(0, 1, 9).is(BROKEN);
+            r.write(0, 1, 9).is(BROKEN);
         }
         Run r = new Run(label + ": a copy is enough");
         r.pipe(0).is(1);
@@ -1539,13 +1769,13 @@ public final class BoundaryTest {
         r.closes(0, 2);
         r.write(0, 1, 2).is(0);
         r.exit(1).is(0);
-        r.write(0, 1, 3).refused(BROKEN);
+        r.write(0, 1, 3).is(BROKEN);
 
         r = new Run(label + ": the reading end of another pipe does not help");
         r.pipe(0).is(1);
         r.pipe(0).is(8 * 2 + 3);
         r.closes(0, 0);
-        r.write(0, 1, 9).refused(BROKEN);
+        r.write(0, 1, 9).is(BROKEN);
         r.write(0, 3, 9).is(0);
     }
 
@@ -1560,10 +1790,10 @@ public final class BoundaryTest {
             }
             r.writes(0, 1, bytes(100, 5));
             r.write(0, 1, 105).is(0);
-            r.write(0, 1, 106).refused(WAIT);
+            r.write(0, 1, 106).is(WAIT);
             r.reads(0, 0, 100);
             r.write(0, 1, 107).is(0);
-            r.write(0, 1, 108).refused(WAIT);
+            r.write(0, 1, 108).is(WAIT);
             r.reads(0, 0, 101, 102, 103, 104, 105, 107, WAIT);
         }
     }
@@ -1572,17 +1802,61 @@ public final class BoundaryTest {
         String label = "write: A reading end: BAD";
         Run r = new Run(label);
         r.pipe(0).is(1);
-        r.write(0, 0, 9).refused(BAD);
+        r.write(0, 0, 9).is(BAD);
         r.writes(0, 1, bytes(1, 6));
-        r.write(0, 0, 9).refused(BAD);
+        r.write(0, 0, 9).is(BAD);
         r.closes(0, 1);
-        r.write(0, 0, 9).refused(BAD);
+        r.write(0, 0, 9).is(BAD);
         r.reads(0, 0, bytes(1, 6));
-        r.write(0, 0, 9).refused(BAD);
+        r.write(0, 0, 9).is(BAD);
         r.reads(0, 0, END);
     }
 
     // ---- Promise 9
+
+    private static void readGoesOnBy1() {
+        String label = "An opening of a file: the byte at its offset, which goes on by 1";
+        for (int offset = 0; offset < 8; offset++) {
+            for (int number = 1; number <= 8 - offset; number++) {
+                Run r = new Run(label + ": " + number + " bytes from offset " + offset);
+                r.open(0, 0).is(0);
+                r.open(0, 0).is(1);
+                r.writes(0, 0, bytes(1, 8));
+                r.seek(0, 1, offset).is(0);
+                r.reads(0, 1, bytes(offset + 1, number));
+                if (offset + number < 8) {
+                    r.writes(0, 1, 99);
+                    r.seek(0, 0, offset + number).is(0);
+                    r.reads(0, 0, 99);
+                } else {
+                    r.write(0, 1, 99).is(NO_ROOM);
+                }
+                r.seek(0, 0, 0).is(0);
+                r.reads(0, 0, bytes(1, offset + number));
+            }
+        }
+    }
+
+    private static void readAnswersTheByte() {
+        String label = "Otherwise answers the byte";
+        Run ofFile = new Run(label + ": of a file");
+        Run ofPipe = new Run(label + ": of a pipe");
+        for (int value = 0; value < 256; value++) {
+            if (value % 8 == 0) {
+                ofFile = new Run(ofFile.label);
+                ofFile.open(0, 0).is(0);
+                ofFile.open(0, 0).is(1);
+            }
+            ofFile.write(0, 0, value).is(0);
+            ofFile.read(0, 1).is(value);
+            if (value % 128 == 0) {
+                ofPipe = new Run(ofPipe.label);
+                ofPipe.pipe(0).is(1);
+            }
+            ofPipe.write(0, 1, value).is(0);
+            ofPipe.read(0, 0).is(value);
+        }
+    }
 
     private static void readAtTheEndOfAFile() {
         String label = "END if the offset is the number of bytes";
@@ -1591,14 +1865,14 @@ public final class BoundaryTest {
             r.open(0, 0).is(0);
             r.open(0, 0).is(1);
             r.writes(0, 0, bytes(1, length));
-            r.read(0, 0).refused(END);
+            r.read(0, 0).is(END);
             r.reads(0, 1, bytes(1, length));
-            r.read(0, 1).refused(END);
-            r.read(0, 1).refused(END);
+            r.read(0, 1).is(END);
+            r.read(0, 1).is(END);
             if (length < 8) {
                 r.writes(0, 0, 99);
                 r.reads(0, 1, 99);
-                r.read(0, 1).refused(END);
+                r.read(0, 1).is(END);
             }
         }
         Run r = new Run(label + ": a byte 0 is not the end");
@@ -1614,7 +1888,7 @@ public final class BoundaryTest {
         r.closes(0, 0);
         r.open(0, 0).is(0);
         r.writes(0, 0, 50, 51);
-        r.read(0, 0).refused(END);
+        r.read(0, 0).is(END);
     }
 
     private static void readTakesTheOldestByte() {
@@ -1628,7 +1902,7 @@ public final class BoundaryTest {
                 r.writes(0, 1, time + held);
             }
             r.reads(0, 0, bytes(40, held));
-            r.read(0, 0).refused(WAIT);
+            r.read(0, 0).is(WAIT);
         }
     }
 
@@ -1639,53 +1913,79 @@ public final class BoundaryTest {
             r.pipe(0).is(1);
             r.writes(0, 1, bytes(1, length));
             r.reads(0, 0, bytes(1, length));
-            r.read(0, 0).refused(WAIT);
+            r.read(0, 0).is(WAIT);
             r.closes(0, 1);
-            r.read(0, 0).refused(END);
+            r.read(0, 0).is(END);
 
             r = new Run(label + ": " + length + " outlive the writing end");
             r.pipe(0).is(1);
             r.writes(0, 1, bytes(1, length));
             r.closes(0, 1);
             r.reads(0, 0, bytes(1, length));
-            r.read(0, 0).refused(END);
-            r.read(0, 0).refused(END);
+            r.read(0, 0).is(END);
+            r.read(0, 0).is(END);
         }
         Run r = new Run(label + ": a copy of the writing end is enough");
         r.pipe(0).is(1);
         r.dup(0, 1).is(2);
         r.closes(0, 1);
-        r.read(0, 0).refused(WAIT);
+        r.read(0, 0).is(WAIT);
         r.fork(0).is(1);
         r.closes(0, 2);
-        r.read(0, 0).refused(WAIT);
+        r.read(0, 0).is(WAIT);
         r.exit(1).is(0);
-        r.read(0, 0).refused(END);
+        r.read(0, 0).is(END);
 
         r = new Run(label + ": the writing end of another pipe does not help");
         r.pipe(0).is(1);
         r.pipe(0).is(8 * 2 + 3);
         r.closes(0, 1);
-        r.read(0, 0).refused(END);
-        r.read(0, 2).refused(WAIT);
+        r.read(0, 0).is(END);
+        r.read(0, 2).is(WAIT);
     }
 
     private static void readFromAWritingEnd() {
         String label = "read: A writing end: BAD";
         Run r = new Run(label);
         r.pipe(0).is(1);
-        r.read(0, 1).refused(BAD);
+        r.read(0, 1).is(BAD);
         r.writes(0, 1, bytes(1, 6));
-        r.read(0, 1).refused(BAD);
+        r.read(0, 1).is(BAD);
         r.closes(0, 0);
-        r.read(0, 1).refused(BAD);
+        r.read(0, 1).is(BAD);
         r = new Run(label + ": empty, without a reading end");
         r.pipe(0).is(1);
         r.closes(0, 0);
-        r.read(0, 1).refused(BAD);
+        r.read(0, 1).is(BAD);
     }
 
     // ---- Promise 10
+
+    private static void seekSetsTheOffset() {
+        String label = "Sets the offset of the opening of a file. Answers 0";
+        for (int from = 0; from <= 8; from++) {
+            for (int to = 0; to <= 8; to++) {
+                Run r = new Run(label + ": from " + from + " to " + to);
+                r.opens(0, 0, 0, 1);
+                r.dup(0, 0).is(2);
+                r.open(0, 1).is(3);
+                r.writes(0, 3, 50, 51);
+                r.writes(0, 0, bytes(1, 8));
+                r.seek(0, 1, 4).is(0);
+                r.seek(0, 0, from).is(0);
+                r.seek(0, 0, to).is(0);
+                r.counts().is(320);
+                r.reads(0, 2, to < 8 ? to + 1 : END);
+                r.reads(0, 1, 5);
+                r.reads(0, 3, END);
+                r.seek(0, 2, to).is(0);
+                r.write(0, 0, 99).is(to < 8 ? 0 : NO_ROOM);
+                r.seek(0, 1, 0).is(0);
+                r.reads(0, 1, bytes(1, to));
+                r.reads(0, 1, to < 8 ? 99 : END);
+            }
+        }
+    }
 
     private static void seekFrom0ToTheNumberOfBytes() {
         String label = "BAD (also if offset is not from 0 to the file's number of bytes)";
@@ -1695,12 +1995,12 @@ public final class BoundaryTest {
             r.writes(0, 0, bytes(1, length));
             for (int offset = 0; offset <= length; offset++) {
                 r.seek(0, 0, offset).is(0);
-                r.seek(0, 0, -1).refused(BAD);
-                r.seek(0, 0, length + 1).refused(BAD);
+                r.seek(0, 0, -1).is(BAD);
+                r.seek(0, 0, length + 1).is(BAD);
                 r.reads(0, 0, offset < length ? offset + 1 : END);
             }
             for (int offset : new int[] {-2, -8, 9, 10, 16, 256, 65536, 1 << 30, MAX, MIN}) {
-                r.seek(0, 0, offset).refused(BAD);
+                r.seek(0, 0, offset).is(BAD);
             }
         }
         Run r = new Run(label + ": the file and not the opening has them");
@@ -1709,11 +2009,11 @@ public final class BoundaryTest {
         r.open(0, 1).is(2);
         r.writes(0, 0, 1, 2, 3);
         r.seek(0, 1, 3).is(0);
-        r.seek(0, 1, 4).refused(BAD);
-        r.seek(0, 2, 1).refused(BAD);
+        r.seek(0, 1, 4).is(BAD);
+        r.seek(0, 2, 1).is(BAD);
         r.writes(0, 1, 4);
         r.seek(0, 0, 4).is(0);
-        r.read(0, 0).refused(END);
+        r.read(0, 0).is(END);
     }
 
     private static void seekOfAnEndOfAPipe() {
@@ -1723,17 +2023,52 @@ public final class BoundaryTest {
             r.open(0, 0).is(0);
             r.writes(0, 0, bytes(1, 8));
             r.pipe(0).is(8 + 2);
-            r.seek(0, 1, offset).refused(BAD);
-            r.seek(0, 2, offset).refused(BAD);
+            r.seek(0, 1, offset).is(BAD);
+            r.seek(0, 2, offset).is(BAD);
             r.writes(0, 2, bytes(1, 6));
-            r.seek(0, 1, offset).refused(BAD);
-            r.seek(0, 2, offset).refused(BAD);
+            r.seek(0, 1, offset).is(BAD);
+            r.seek(0, 2, offset).is(BAD);
             r.closes(0, 2);
-            r.seek(0, 1, offset).refused(BAD);
+            r.seek(0, 1, offset).is(BAD);
         }
     }
 
     // ---- Promise 11
+
+    private static void linkLeadsToTheSameFile() {
+        String label = "The free name to leads to the file that the name from leads to";
+        for (int from = 0; from < 4; from++) {
+            for (int to = 0; to < 4; to++) {
+                if (from == to) {
+                    continue;
+                }
+                Run r = new Run(label + ": from " + from + " to " + to);
+                r.open(0, from).is(0);
+                r.writes(0, 0, 7);
+                r.link(from, to).is(0);
+                r.counts().is(110);
+                r.open(0, to).is(1);
+                r.reads(0, 1, 7, END);
+                r.writes(0, 1, 8);
+                r.reads(0, 0, 8, END);
+                r.unlink(from).is(0);
+                r.counts().is(210);
+                r.open(0, from).is(2);
+                r.reads(0, 2, END);
+                r.counts().is(320);
+                r.open(0, to).is(3);
+                r.reads(0, 3, 7, 8, END);
+                r.closes(0, 0, 1, 3);
+                r.counts().is(120);
+                r.unlink(to).is(0);
+                r.counts().is(110);
+                r.link(from, to).is(0);
+                r.open(0, to).is(0);
+                r.reads(0, 0, END);
+                r.counts().is(210);
+            }
+        }
+    }
 
     private static void linkFromAFreeNameOrToOneThatIsNot() {
         String label = "BAD (also if from is free or to is not)";
@@ -1749,13 +2084,13 @@ public final class BoundaryTest {
                         }
                     }
                     if ((taken >> from & 1) == 0 || (taken >> to & 1) != 0) {
-                        r.link(from, to).refused(BAD);
+                        r.link(from, to).is(BAD);
                         continue;
                     }
                     r.link(from, to).is(0);
                     r.counts().is(10 * Integer.bitCount(taken));
-                    r.link(from, to).refused(BAD);
-                    r.link(to, from).refused(BAD);
+                    r.link(from, to).is(BAD);
+                    r.link(to, from).is(BAD);
                     r.open(0, to).is(0);
                     r.reads(0, 0, 60 + from, END);
                 }
@@ -1764,27 +2099,57 @@ public final class BoundaryTest {
         Run r = new Run(label + ": a file that is open but has lost its name");
         r.open(0, 0).is(0);
         r.unlink(0).is(0);
-        r.link(0, 1).refused(BAD);
+        r.link(0, 1).is(BAD);
     }
 
     // ---- Promise 12
+
+    private static void unlinkFreesTheName() {
+        String label = "The name becomes free. Answers 0";
+        for (int name = 0; name < 4; name++) {
+            Run r = new Run(label + ": " + name);
+            for (int each = 0; each < 4; each++) {
+                r.open(0, each).is(each);
+                r.writes(0, each, 30 + each);
+            }
+            r.unlink(name).is(0);
+            r.counts().is(440);
+            int other = (name + 1) % 4;
+            r.link(name, other).is(BAD);
+            r.link(other, name).is(0);
+            r.unlink(name).is(0);
+            r.counts().is(440);
+            r.open(0, name).is(4);
+            r.reads(0, 4, END);
+            r.counts().is(550);
+            for (int each = 0; each < 4; each++) {
+                r.seek(0, each, 0).is(0);
+                r.reads(0, each, 30 + each, END);
+                r.open(0, each).is(5);
+                r.reads(0, 5, each == name ? END : 30 + each);
+                r.closes(0, 5);
+            }
+            r.closes(0, name);
+            r.counts().is(440);
+        }
+    }
 
     private static void unlinkOfAFreeName() {
         String label = "unlink: BAD if it is free";
         for (int name = 0; name < 4; name++) {
             Run r = new Run(label);
-            r.unlink(name).refused(BAD);
+            r.unlink(name).is(BAD);
             r.open(0, name).is(0);
             r.unlink(name).is(0);
-            r.unlink(name).refused(BAD);
+            r.unlink(name).is(BAD);
             r.counts().is(110);
             int other = (name + 1) % 4;
             r.open(0, other).is(1);
             r.link(other, name).is(0);
             r.unlink(name).is(0);
-            r.unlink(name).refused(BAD);
+            r.unlink(name).is(BAD);
             r.unlink(other).is(0);
-            r.unlink(other).refused(BAD);
+            r.unlink(other).is(BAD);
         }
     }
 
@@ -1816,7 +2181,7 @@ public final class BoundaryTest {
         r.unlink(0).is(0);
         r.counts().is(2400 + 270);
         for (int process = 0; process < 4; process++) {
-            r.open(process, 0).refused(NO_ROOM);
+            r.open(process, 0).is(NO_ROOM);
         }
         for (int place = 0; place < 24; place++) {
             r.seek(place / 6, place % 6, 0).is(0);
@@ -1840,7 +2205,7 @@ public final class BoundaryTest {
                     r.closes(process, 0);
                 }
             }
-            r.pipe(process).refused(NO_ROOM);
+            r.pipe(process).is(NO_ROOM);
         }
         r.counts().is(2400 + 20);
         for (int process = 0; process < 4; process++) {
@@ -1864,7 +2229,7 @@ public final class BoundaryTest {
 
     private static void countsChangesNothing() {
         for (Run r : busyRuns("counts changes nothing")) {
-            dueUnchanged(r.label, r.calls, call("counts"));
+            dueUnchanged(r.label, r.calls, allAnswersAfter(r.calls), call("counts"));
         }
     }
 
@@ -1875,18 +2240,18 @@ public final class BoundaryTest {
         Run r = new Run(label);
         r.pipe(0).is(1);
         r.writes(0, 1, bytes(1, 6));
-        r.write(0, 1, 9).refused(WAIT);
+        r.write(0, 1, 9).is(WAIT);
         r.closes(0, 0);
-        r.write(0, 1, 9).refused(BROKEN);
+        r.write(0, 1, 9).is(BROKEN);
 
         r = new Run(label + ": in two processes");
         r.pipe(0).is(1);
         r.fork(0).is(1);
         r.closes(0, 0);
         r.writes(0, 1, bytes(1, 6));
-        r.write(0, 1, 9).refused(WAIT);
+        r.write(0, 1, 9).is(WAIT);
         r.exit(1).is(0);
-        r.write(0, 1, 9).refused(BROKEN);
+        r.write(0, 1, 9).is(BROKEN);
     }
 
     private static void openWithoutRoomMakesNoFile() {
@@ -1897,10 +2262,10 @@ public final class BoundaryTest {
             r.pipe(0).is(1);
             r.pipe(0).is(8 * 2 + 3);
             r.pipe(0).is(8 * 4 + 5);
-            r.open(0, name).refused(NO_ROOM);
+            r.open(0, name).is(NO_ROOM);
             r.counts().is(603);
-            r.unlink(name).refused(BAD);
-            r.link(name, other).refused(BAD);
+            r.unlink(name).is(BAD);
+            r.link(name, other).is(BAD);
             r.closes(0, 3);
             r.open(0, name).is(3);
             r.counts().is(613);
@@ -1910,7 +2275,7 @@ public final class BoundaryTest {
             r.open(0, name).is(0);
             r.writes(0, 0, 7, 8);
             r.opens(0, other, 1, 2, 3, 4, 5);
-            r.open(0, name).refused(NO_ROOM);
+            r.open(0, name).is(NO_ROOM);
             r.counts().is(620);
             r.closes(0, 4);
             r.open(0, name).is(4);
@@ -1930,6 +2295,7 @@ public final class BoundaryTest {
         aFileHas0To8Bytes();
         severalNamesMayLeadToTheSameFile();
         aFileWithoutNameAndOpeningIsGoneAtOnce();
+        openingsAreOfThreeSorts();
         aPipeHolds0To6Bytes();
         aPipeHasAtMostOneReadingAndOneWritingEnd();
         aPipeIsGoneWhenBothEndsAre();
@@ -1937,16 +2303,19 @@ public final class BoundaryTest {
         aFreeDescriptorIsBad();
         badComesBeforeNoRoom();
         aRefusedCallChangesNothing();
+        eachRefusedCallOfALongRunChangesNothing();
         theLeastFreeDescriptor();
     }
 
     private static void promises() {
+        aNewObjectIsAsSaidAbove();
         openOfAFreeNameMakesANewFile();
         openStartsAtOffset0();
         openWithoutAFreeDescriptor();
         pipeMakesAPipeWithoutBytes();
         pipeTakesTheTwoLeastFreeDescriptors();
         pipeWithFewerThanTwoFreeDescriptors();
+        dupLeadsToTheSameOpening();
         dupWithoutAFreeDescriptor();
         closeTwice();
         forkTakesTheLeastThatIsNotAlive();
@@ -1955,18 +2324,25 @@ public final class BoundaryTest {
         exitFreesAllDescriptors();
         exitOfTheLastProcess();
         writeTakesTheLowBits();
+        writeGoesOnBy1();
         writeAtTheEndOfAFile();
         writeWhenTheOffsetIs8();
+        writePutsTheByteAtTheEnd();
         writeWithoutAReadingEnd();
         writeWhenThePipeHolds6();
         writeToAReadingEnd();
+        readGoesOnBy1();
+        readAnswersTheByte();
         readAtTheEndOfAFile();
         readTakesTheOldestByte();
         readOfAnEmptyPipe();
         readFromAWritingEnd();
+        seekSetsTheOffset();
         seekFrom0ToTheNumberOfBytes();
         seekOfAnEndOfAPipe();
+        linkLeadsToTheSameFile();
         linkFromAFreeNameOrToOneThatIsNot();
+        unlinkFreesTheName();
         unlinkOfAFreeName();
         countsFromNothingToTheMost();
         countsChangesNothing();
